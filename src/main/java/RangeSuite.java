@@ -287,8 +287,9 @@ public final class RangeSuite {
     }
 
     private int squareFrom(int place, int k) {
-        int dx = xOf(place) - px[k];
-        int dy = yOf(place) - py[k];
+        // Not by xOf and yOf: the search through the grid stands as deep above this as calls may go.
+        int dx = place % SIDE - px[k];
+        int dy = place / SIDE - py[k];
         return dx * dx + dy * dy;
     }
 
