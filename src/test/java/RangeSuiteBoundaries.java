@@ -17,8 +17,13 @@ public final class RangeSuiteBoundaries {
     private static final int RECTANGLE_ENGINES = 8;
     private static final int NEAR_ENGINES = 4;
 
+    // Stands for a call that threw, so that the runs after it are still made; no call may answer this number.
+    private static final int THREW = Integer.MIN_VALUE;
+
     private static final String[] WRONG_PLACES = {"-1", "-64", "min", "4096", "4159", "max"};
     private static final String[] WRONG_POINTS = {"-1", "-28", "-32", "min", "28", "31", "32", "59", "64", "max"};
+
+    private static final List<View> VIEWS = views();
 
     private static int wrong = 0;
     private static int runs = 0;
@@ -32,6 +37,10 @@ public final class RangeSuiteBoundaries {
         boolean isAcceptedChange() {
             boolean isChange = name.equals("add") || name.equals("remove") || name.equals("move");
             return isChange && (!checked || due >= 0);
+        }
+
+        boolean isRefused() {
+            return checked && (name.equals("agree") ? due == 0 : due < 0);
         }
 
         @Override
@@ -54,11 +63,19 @@ public final class RangeSuiteBoundaries {
             if (calls > CALLS) {
                 throw new IllegalStateException("a test makes more than " + CALLS + " calls on one object");
             }
-            return answerOf(suite, call.name(), call.arguments());
+            return answerOrThrew(suite, call.name(), call.arguments());
         }
 
         int answer(String name, int... arguments) {
             return answer(new Call(name, arguments, false, 0));
+        }
+    }
+
+    private static int answerOrThrew(RangeSuite s, String name, int... arguments) {
+        try {
+            return answerOf(s, name, arguments);
+        } catch (ArithmeticException | IndexOutOfBoundsException | NullPointerException fault) {
+            return THREW;
         }
     }
 
@@ -170,7 +187,7 @@ public final class RangeSuiteBoundaries {
             addCalls(calls, row);
         }
         runAnswers(edge, calls);
-        runUnchanged(edge, calls);
+        runUnchanged(edge, rows);
     }
 
     private static void runAnswers(String edge, List<Call> calls) {
@@ -178,19 +195,31 @@ public final class RangeSuiteBoundaries {
         Counted suite = new Counted();
         for (Call call : calls) {
             int got = suite.answer(call);
-            if (call.checked() && got != call.due()) {
+            if (got == THREW) {
+                tell(edge, call + " threw");
+            } else if (call.checked() && got != call.due()) {
                 tell(edge, call + " answered " + got + ", due is " + call.due());
             }
         }
     }
 
-    private static void runUnchanged(String edge, List<Call> calls) {
+    private static void runUnchanged(String edge, String[] rows) {
         List<Call> changes = new ArrayList<>();
-        for (Call call : calls) {
-            if (call.isAcceptedChange()) {
-                changes.add(call);
-            } else {
-                sameAfter(edge, changes, call);
+        for (String row : rows) {
+            List<Call> calls = new ArrayList<>();
+            addCalls(calls, row);
+            List<Call> questions = new ArrayList<>();
+            for (Call call : calls) {
+                if (call.isAcceptedChange()) {
+                    changes.add(call);
+                } else if (call.isRefused()) {
+                    sameAfter(edge, changes, List.of(call));
+                } else {
+                    questions.add(call);
+                }
+            }
+            if (!questions.isEmpty()) {
+                sameAfter(edge, changes, questions);
             }
         }
     }
@@ -200,20 +229,33 @@ public final class RangeSuiteBoundaries {
         List<Integer> answers(Counted suite);
     }
 
-    private static void sameAfter(String edge, List<Call> changes, Call idle) {
-        View[] views = {
-            RangeSuiteBoundaries::pointsView, RangeSuiteBoundaries::rectanglesView,
-            RangeSuiteBoundaries::nearView, RangeSuiteBoundaries::laterView,
-        };
-        for (View view : views) {
+    private static void sameAfter(String edge, List<Call> changes, List<Call> idle) {
+        for (View view : VIEWS) {
             Counted without = after(changes);
             Counted with = after(changes);
-            with.answer(idle);
+            for (Call call : idle) {
+                with.answer(call);
+            }
             if (!view.answers(without).equals(view.answers(with))) {
                 tell(edge, idle + " changed something, which is due to change nothing");
                 return;
             }
         }
+    }
+
+    private static List<View> views() {
+        List<View> views = new ArrayList<>();
+        views.add(RangeSuiteBoundaries::pointsView);
+        views.add(RangeSuiteBoundaries::laterView);
+        for (int i = 0; i < RECTANGLE_ENGINES; i++) {
+            int engine = i;
+            views.add(suite -> rectanglesView(suite, engine));
+        }
+        for (int i = 0; i < NEAR_ENGINES; i++) {
+            int engine = i;
+            views.add(suite -> nearView(suite, engine));
+        }
+        return views;
     }
 
     private static Counted after(List<Call> changes) {
@@ -243,35 +285,29 @@ public final class RangeSuiteBoundaries {
         return seen;
     }
 
-    private static List<Integer> rectanglesView(Counted s) {
+    /** All columns and rows from the first on, and all places of points: each part of what an engine keeps shows there. */
+    private static List<Integer> rectanglesView(Counted s, int engine) {
         List<Integer> seen = new ArrayList<>();
+        for (int i = 0; i < 64; i++) {
+            seen.add(s.answer("inside", engine, 0, i + 64 * 63));
+            seen.add(s.answer("inside", engine, 0, 63 + 64 * i));
+        }
         for (int k = 0; k < POINTS; k++) {
             int place = s.answer("at", k);
-            for (int engine = 0; engine < RECTANGLE_ENGINES; engine++) {
-                seen.add(place < 0 ? place : s.answer("inside", engine, place, place));
-            }
-        }
-        for (int engine = 0; engine < RECTANGLE_ENGINES; engine++) {
-            for (int corner : new int[] {0, 9 + 64 * 9, 31 + 64 * 31, 32 + 64 * 40, 63 + 64 * 63}) {
-                seen.add(s.answer("inside", engine, 0, corner));
-                seen.add(s.answer("count", engine, corner, 4095));
-            }
+            seen.add(place < 0 ? place : s.answer("count", engine, place, place));
         }
         return seen;
     }
 
-    private static List<Integer> nearView(Counted s) {
+    private static List<Integer> nearView(Counted s, int engine) {
         List<Integer> seen = new ArrayList<>();
+        for (int place = 0; place < 4096; place += 65) {
+            seen.add(s.answer("nearest", engine, place));
+            seen.add(s.answer("nearest", engine, 4032 - place / 65 * 63));
+        }
         for (int k = 0; k < POINTS; k++) {
             int place = s.answer("at", k);
-            for (int engine = 0; engine < NEAR_ENGINES; engine++) {
-                seen.add(place < 0 ? place : s.answer("nearest", engine, place));
-            }
-        }
-        for (int engine = 0; engine < NEAR_ENGINES; engine++) {
-            for (int place = 0; place < 4096; place += 195) {
-                seen.add(s.answer("nearest", engine, place));
-            }
+            seen.add(place < 0 ? place : s.answer("nearest", engine, place));
         }
         return seen;
     }
@@ -365,7 +401,7 @@ public final class RangeSuiteBoundaries {
         runAnswers("the 512th call", calls);
     }
 
-    /** Free is what they answer, but none may throw (rule 7 of LANGUAGE.md), which would end this test. */
+    /** Free is what they answer, but none may throw (rule 7 of LANGUAGE.md). */
     private static void laterCallsEnd() {
         runs++;
         RangeSuite suite = new RangeSuite();
@@ -379,7 +415,11 @@ public final class RangeSuiteBoundaries {
             int b = numbers[i / 7 % numbers.length];
             int c = numbers[i / 11 % numbers.length];
             int d = numbers[i / 13 % numbers.length];
-            answerOf(suite, names[i % names.length], a, b, c, d);
+            String name = names[i % names.length];
+            if (answerOrThrew(suite, name, a, b, c, d) == THREW) {
+                tell("call " + (i + 1), name + " threw with " + List.of(a, b, c, d));
+                return;
+            }
         }
     }
 
