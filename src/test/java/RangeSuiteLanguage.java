@@ -11,6 +11,7 @@ import com.sun.source.tree.MethodInvocationTree;
 import com.sun.source.tree.MethodTree;
 import com.sun.source.tree.NewArrayTree;
 import com.sun.source.tree.Tree;
+import com.sun.source.tree.TypeCastTree;
 import com.sun.source.tree.VariableTree;
 import com.sun.source.tree.WhileLoopTree;
 import com.sun.source.util.JavacTask;
@@ -46,8 +47,10 @@ public final class RangeSuiteLanguage {
             Tree.Kind.THROW, Tree.Kind.TRY, Tree.Kind.CATCH, Tree.Kind.SYNCHRONIZED, Tree.Kind.ASSERT,
             Tree.Kind.INSTANCE_OF, Tree.Kind.LAMBDA_EXPRESSION, Tree.Kind.MEMBER_REFERENCE, Tree.Kind.NEW_CLASS,
             Tree.Kind.NULL_LITERAL, Tree.Kind.STRING_LITERAL, Tree.Kind.FLOAT_LITERAL, Tree.Kind.DOUBLE_LITERAL,
-            Tree.Kind.INTERFACE, Tree.Kind.ENUM, Tree.Kind.RECORD, Tree.Kind.ANNOTATION, Tree.Kind.IMPORT,
+            Tree.Kind.CLASS, Tree.Kind.INTERFACE, Tree.Kind.ENUM, Tree.Kind.RECORD, Tree.Kind.ANNOTATION, Tree.Kind.IMPORT,
             Tree.Kind.PARAMETERIZED_TYPE, Tree.Kind.ENHANCED_FOR_LOOP);
+
+    private static final String NUMBER_TYPES = "int|long|short|byte|char|boolean";
 
     private static int wrong = 0;
 
@@ -170,6 +173,18 @@ public final class RangeSuiteLanguage {
         }
 
         @Override
+        public Void visitVariable(VariableTree variable, Void nothing) {
+            checkVariable(name, variable);
+            return super.visitVariable(variable, nothing);
+        }
+
+        @Override
+        public Void visitTypeCast(TypeCastTree cast, Void nothing) {
+            rule(6, cast.getType().toString().matches(NUMBER_TYPES), name + " casts to " + cast.getType());
+            return super.visitTypeCast(cast, nothing);
+        }
+
+        @Override
         public Void visitForLoop(ForLoopTree loop, Void nothing) {
             rule(8, loop.getCondition() != null && !loop.getUpdate().isEmpty(), name + " has a loop without a counter");
             return super.visitForLoop(loop, nothing);
@@ -185,6 +200,21 @@ public final class RangeSuiteLanguage {
         public Void visitDoWhileLoop(DoWhileLoopTree loop, Void nothing) {
             rule(8, false, name + " has a do loop; this class counts in for loops alone");
             return super.visitDoWhileLoop(loop, nothing);
+        }
+    }
+
+    private static void checkVariable(String method, VariableTree variable) {
+        String type = String.valueOf(variable.getType());
+        rule(2, type.matches("(" + NUMBER_TYPES + ")(\\[\\])?"), method + " has " + variable.getName() + " of type " + type);
+    }
+
+    private static void checkTypes(MethodTree method) {
+        String name = method.getName().toString();
+        // A constructor answers nothing and has no type for it.
+        String answer = method.getReturnType() == null ? "void" : method.getReturnType().toString();
+        rule(4, answer.matches("void|" + NUMBER_TYPES), name + " answers " + answer);
+        for (VariableTree parameter : method.getParameters()) {
+            checkVariable(name, parameter);
         }
     }
 
@@ -209,6 +239,7 @@ public final class RangeSuiteLanguage {
                 long last = lines.getLineNumber(positions.getEndPosition(unit, method));
                 rule(10, last - first < 60, name + " has " + (last - first + 1) + " lines");
                 rule(10, method.getParameters().size() <= 7, name + " has more than seven parameters");
+                checkTypes(method);
                 Body body = new Body(name, arrays);
                 body.scan(method.getBody(), null);
                 rule(10, calls.put(name, body.calls) == null, name + " stands twice, so its calls can't be told apart");
@@ -231,6 +262,11 @@ public final class RangeSuiteLanguage {
                     rule(4, made.getInitializers() == null && made.getDimensions().size() == 1
                             && made.getDimensions().get(0).toString().matches("[A-Z_]+|[1-9][0-9]*"),
                             field.getName() + " has a length that is a literal or a constant");
+                } else {
+                    // What no call had a part in and is a number is, in a constant, known at compile time.
+                    Body initialiser = new Body(field.getName().toString(), Set.of());
+                    initialiser.scan(field.getInitializer(), null);
+                    rule(5, initialiser.calls.isEmpty(), field.getName() + " is set by a call");
                 }
             }
         }
